@@ -825,6 +825,7 @@ public final class HomeCalls {
             return it == NOBODY ? children : children - 1;
         }
 
+        /** THINGS without the mark of a CALL don't count in it, so TAKE tries no set with one. */
         boolean allHave(int set, int mark) {
             for (int i = 0; i < things; i++) {
                 if (isIn(i, set) && !isIn(mark, marks[i])) {

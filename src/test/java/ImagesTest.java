@@ -64,9 +64,9 @@ public final class ImagesTest {
         due.is("law(0, 2)", x.law(0, 2, 0, 0), 0);
         due.is("law(1, 1)", x.law(1, 1, 0, 0), 1);
         due.is("law(1, 2)", x.law(1, 2, 0, 0), 0);
-        Due.feed(x, "1=3");
-        due.is("THE TAPE: 1+1=3", x.text(0), 1);
-        due.is("law(0)", x.law(0, 1, 0, 0), 0);
+        Due.feed(x, "1=2");
+        due.is("THE TAPE: 1+1=2", x.text(0), 1);
+        due.is("law(0)", x.law(0, 5, 0, 0), 1);
         due.is("the numbers that wait", x.check(), 0);
     }
 

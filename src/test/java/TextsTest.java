@@ -66,6 +66,11 @@ public final class TextsTest {
         due.is("law(0)", x.law(0, 0, 0, 0), 1);
         due.is("no ERROR is told", x.told(1) + x.told(2) + x.told(3) + x.told(4) + x.told(5), 2);
         due.is("50 bytes", Due.text(x, 1, "1+".repeat(24) + "10"), 1);
+        due.is("law(1)", x.law(1, 0, 0, 0), 1);
+        due.is("50 bytes, each of its own", Due.text(x, 1, "!0" + "+0".repeat(24)), 1);
+        due.is("law(1)", x.law(1, 0, 0, 0), 1);
+        due.is("50 bytes, each of its own", Due.text(x, 1, "!1" + "+0".repeat(24)), 1);
+        due.is("law(1)", x.law(1, 0, 0, 0), 0);
         due.is("50 bytes, too early", Due.text(x, 1, "1+".repeat(25)), -60);
     }
 
@@ -73,7 +78,8 @@ public final class TextsTest {
         due.promise(12);
         String[] whole = {"1", "1234", "0000", "d", "b", "m", "!d", "!!!!!d", "(d)", "(((((d)))))", "!(!(!d))",
             "!!(!(d))", "!!!!!d+!!!!!d", "(((((d))))+1)", "1<2", "(1<2)<3", "1<2&3>4|5=6", "1<2|1<2", "1-1*2/3%4+5",
-            "1*!2", "1<!2", "(1)*(2)", "!(1)<2", "d&b|m", "1+(2<3)*4", "!1=!2"};
+            "1*!2", "1<!2", "(1)*(2)", "!(1)<2", "d&b|m", "1+(2<3)*4", "!1=!2",
+            "(1)+(1)+(1)+(1)+(1)+(1)", "!1+!1+!1+!1+!1+!1", "!(1)*!(1)*!(1)*!(1)*!(1)*!(1)"};
         for (String text : whole) {
             due.is(text, Due.text(new HomeCalls(), 0, text), 1);
         }

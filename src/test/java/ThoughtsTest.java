@@ -189,6 +189,21 @@ public final class ThoughtsTest {
         few.change(1, 0, 9);
         due.is("all three", few.take(0, 0, 9), 7);
 
+        HomeCalls alike = new HomeCalls();
+        alike.thing(6, 1);
+        alike.thing(3, 1);
+        alike.child(40, 3);
+        alike.child(20, 5);
+        Due.text(alike, 1, "n<2");
+        due.is("without 0 it is crowded, without 1 there is none: the least", alike.take(0, 0, 1), 1);
+
+        HomeCalls eight = new HomeCalls();
+        for (int i = 0; i < 8; i++) {
+            eight.thing(5, 32);
+        }
+        eight.child(0, 5);
+        due.is("all eight", eight.take(0, 5, 0), 255);
+
         HomeCalls numbers = new HomeCalls();
         for (int cell : new int[] {1, 2, 11, 2, 10}) {
             numbers.thing(cell, 1);
@@ -289,6 +304,14 @@ public final class ThoughtsTest {
         x.thing(3, 63);
         due.is("a THING with all MARKS", x.never(9), 6);
         due.is("without CHILDREN", new HomeCalls().never(0), 0);
+        for (int mark = 0; mark < 6; mark++) {
+            HomeCalls one = new HomeCalls();
+            one.thing(0, 63 - (1 << mark));
+            one.child(40, 0);
+            one.child(40, 1);
+            one.it(1);
+            due.is("HAD by mark " + mark + " alone", one.never(0), 2);
+        }
         HomeCalls run = new HomeCalls();
         run.thing(3, 31);
         run.thing(4, 32);
